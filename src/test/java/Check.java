@@ -1,11 +1,17 @@
 /** Counts and prints the answers that are not the ones due. */
 final class Check {
+    private String sentence = "";
     private int wrong = 0;
+
+    /** What is checked from here on belongs to this sentence of the document. */
+    void about(String sentence) {
+        this.sentence = sentence + ": ";
+    }
 
     void due(String what, long got, long want) {
         if (got != want) {
             wrong++;
-            System.out.println(what + " answered " + got + ", due is " + want);
+            System.out.println(sentence + what + " answered " + got + ", due is " + want);
         }
     }
 
